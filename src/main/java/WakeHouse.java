@@ -761,6 +761,10 @@ public final class WakeHouse {
         final int[] bedNamed = new int[MOST_BEDS + MOST_CLOCKS + MOST_SLEEPERS];
         int nameCount;
         int bedsTaken;
+        // In a law: the signs whose right sides are still to come, and how many of them are open.
+        final int[] signs = new int[Tape.MOST_TOKENS];
+        int waiting;
+        int depth;
         int now;
         int value;
         int fault;
@@ -795,24 +799,21 @@ public final class WakeHouse {
             return fault;
         }
 
+        // The end, or what is no TOKEN, is never gone past: there is always one at hand.
         private int kind() {
-            return now < tape.tokens ? tape.kinds[now] : Tape.END;
-        }
-
-        private int at() {
-            return now < tape.tokens ? tape.places[now] : tape.length;
+            return tape.kinds[now];
         }
 
         private boolean fail(int number) {
             fault = number;
-            faultAt = at();
+            faultAt = tape.places[now];
             return false;
         }
 
         private void doubt(int number) {
             if (sense == 0) {
                 sense = number;
-                senseAt = at();
+                senseAt = tape.places[now];
             }
         }
 
@@ -972,65 +973,101 @@ public final class WakeHouse {
 
         private boolean tellLaw(Law law) {
             law.length = 0;
-            return goOn() && sum(law, 0) && take(Tape.SEMICOLON);
-        }
-
-        private boolean sum(Law law, int depth) {
-            boolean good = product(law, depth);
-            for (int i = 0; i < Tape.MOST_TOKENS && good; i++) {
-                int sign = kind();
-                if (sign != Tape.PLUS && sign != Tape.MINUS) {
+            waiting = 0;
+            depth = 0;
+            boolean unitNext = true;
+            boolean good = goOn();
+            for (int i = 0; i <= Tape.MOST_TOKENS && good; i++) {
+                int kind = kind();
+                if (unitNext) {
+                    unitNext = kind == Tape.OPEN || kind == Tape.OPEN_TEST;
+                    good = unitNext ? open(kind) : putUnit(law, kind);
+                } else {
+                    unitNext = kind >= Tape.PLUS && kind <= Tape.LESS || kind == Tape.EQUAL;
+                    good = unitNext ? putSign(law, kind) : close(law, kind);
+                }
+                good = good && goOn();
+                if (kind == Tape.SEMICOLON) {
                     break;
                 }
-                good = goOn() && product(law, depth);
-                law.put(-sign);
             }
             return good;
         }
 
-        private boolean product(Law law, int depth) {
-            boolean good = unit(law, depth);
-            for (int i = 0; i < Tape.MOST_TOKENS && good; i++) {
-                int sign = kind();
-                if (sign != Tape.TIMES && sign != Tape.DIVIDE) {
-                    break;
-                }
-                good = goOn() && unit(law, depth);
-                law.put(-sign);
-            }
-            return good;
-        }
-
-        private boolean unit(Law law, int depth) {
-            int kind = kind();
+        private boolean putUnit(Law law, int kind) {
             if (kind == Tape.INT) {
                 law.put((int) tape.values[now]);
-                return goOn();
+                return true;
             }
-            if (kind <= Tape.AFTER) {
-                law.put(-1 - kind);
-                return goOn();
-            }
-            if (kind != Tape.OPEN && kind != Tape.OPEN_TEST) {
+            if (kind > Tape.AFTER) {
                 return fail(SYNTAX);
             }
+            law.put(-1 - kind);
+            return true;
+        }
+
+        private boolean open(int kind) {
             if (depth >= DEEPEST) {
                 return fail(ROOM);
             }
-            if (!goOn() || !sum(law, depth + 1)) {
-                return false;
-            }
-            return kind == Tape.OPEN ? take(Tape.CLOSE) : test(law, depth + 1);
+            depth++;
+            pushSign(kind);
+            return true;
         }
 
-        private boolean test(Law law, int depth) {
-            int sign = kind();
-            if (sign != Tape.LESS && sign != Tape.EQUAL) {
+        // A sign waits for its right side, and lets those go first that bind no less.
+        private boolean putSign(Law law, int kind) {
+            boolean isPart = kind == Tape.TIMES || kind == Tape.DIVIDE;
+            boolean isTest = kind == Tape.LESS || kind == Tape.EQUAL;
+            putWaiting(law, isPart);
+            if (isTest && !closes(Tape.OPEN_TEST)) {
                 return fail(SYNTAX);
             }
-            boolean good = goOn() && sum(law, depth);
-            law.put(-sign);
-            return good && take(Tape.CLOSE_TEST);
+            pushSign(kind);
+            return true;
+        }
+
+        // Of a test its < or == waits in place of its [ .
+        private boolean close(Law law, int kind) {
+            putWaiting(law, false);
+            if (kind == Tape.SEMICOLON && waiting == 0) {
+                return true;
+            }
+            if (kind == Tape.CLOSE && closes(Tape.OPEN)) {
+                depth--;
+                return true;
+            }
+            if (kind != Tape.CLOSE_TEST) {
+                return fail(SYNTAX);
+            }
+            int test = closes(Tape.LESS) ? Tape.LESS : Tape.EQUAL;
+            if (test == Tape.EQUAL && !closes(Tape.EQUAL)) {
+                return fail(SYNTAX);
+            }
+            law.put(-test);
+            depth--;
+            return true;
+        }
+
+        private void pushSign(int kind) {
+            if (waiting < signs.length) {
+                signs[waiting] = kind;
+                waiting++;
+            }
+        }
+
+        private boolean closes(int kind) {
+            boolean fits = waiting > 0 && signs[waiting - 1] == kind;
+            waiting -= fits ? 1 : 0;
+            return fits;
+        }
+
+        private void putWaiting(Law law, boolean partsOnly) {
+            int least = partsOnly ? Tape.TIMES : Tape.PLUS;
+            while (waiting > 0 && signs[waiting - 1] >= least && signs[waiting - 1] <= Tape.DIVIDE) {
+                waiting--;
+                law.put(-signs[waiting]);
+            }
         }
     }
 
@@ -1214,13 +1251,6 @@ public final class WakeHouse {
             words[Tape.AFTER] = 0;
             return held(hearingLaw.value(words), 0, SURELY);
         }
-
-        int dozing(int depth, int after) {
-            Arrays.fill(words, 0);
-            words[Tape.DEEP] = depth;
-            words[Tape.AFTER] = after;
-            return held(againLaw.value(words), 0, SURELY);
-        }
     }
 
     /** What may be held in a slot: the PLAN, WOOL, BEDS and MORNINGS. */
@@ -1389,6 +1419,8 @@ public final class WakeHouse {
         final int[] hear = new int[MOST_SOUNDS];
         // AGAIN depends on DEEP and the minutes alone, and is asked for over and over.
         final byte[] dozes = new byte[10 * MINUTES];
+        // For AGAIN all words but two stay 0.
+        final int[] words = new int[Law.WORDS];
         final int[] pick = new int[MOST_RINGS];
         final int[] chosen = new int[MOST_RINGS];
         final int[] hearAhead = new int[WIDEST];
@@ -1405,10 +1437,11 @@ public final class WakeHouse {
         }
 
         int asleepAgain(int sleeper, int after) {
-            int depth = house.deep[sleeper];
-            int cell = depth * MINUTES + after;
+            int cell = house.deep[sleeper] * MINUTES + after;
             if (dozes[cell] == UNKNOWN) {
-                dozes[cell] = (byte) house.dozing(depth, after);
+                words[Tape.DEEP] = house.deep[sleeper];
+                words[Tape.AFTER] = after;
+                dozes[cell] = (byte) held(house.againLaw.value(words), 0, SURELY);
             }
             return dozes[cell];
         }
@@ -1711,6 +1744,9 @@ public final class WakeHouse {
 
         private void weigh(int i, int j) {
             night.arrange(NONE);
+            if (night.count > MOST_SOUNDS - (second == NONE ? 1 : 2)) {
+                return;
+            }
             int one = night.insert(FIRST, house.soundsAt(first, setTo(i)));
             int two = NONE;
             if (second != NONE) {
@@ -1724,26 +1760,19 @@ public final class WakeHouse {
                     night.hear[n] = sound < MOST_SOUNDS ? hearPlan[sleeper * MOST_SOUNDS + sound] : 0;
                 }
                 long none = night.share(sleeper);
-                long onlyFirst = shareIf(sleeper, one, 1);
-                long both = shareIf(sleeper, two, 1);
-                long onlySecond = shareIf(sleeper, one, 0);
-                if (two == NONE) {
-                    both = onlyFirst;
-                    onlySecond = none;
-                }
+                night.hear[one] = 1;
+                long onlyFirst = night.share(sleeper);
                 silent += none;
                 byFirst[sleeper] = onlyFirst - none;
-                bySecond[sleeper] = onlySecond - none;
-                byBoth[sleeper] = both - onlyFirst - onlySecond + none;
+                if (two != NONE) {
+                    night.hear[two] = 1;
+                    long both = night.share(sleeper);
+                    night.hear[one] = 0;
+                    long onlySecond = night.share(sleeper);
+                    bySecond[sleeper] = onlySecond - none;
+                    byBoth[sleeper] = both - onlyFirst - onlySecond + none;
+                }
             }
-        }
-
-        private long shareIf(int sleeper, int n, int heard) {
-            if (n < 0 || n >= night.count) {
-                return 0;
-            }
-            night.hear[n] = heard;
-            return night.share(sleeper);
         }
 
         private void compareBeds(int i, int j) {

@@ -63,10 +63,10 @@ public final class ModelTest {
 
     private String text() {
         StringBuilder s = new StringBuilder();
-        int beds = 1 + upTo(random.nextInt(4) == 0 ? 11 : 6);
-        int clocks = upTo(3);
-        int sleepers = 1 + upTo(beds - 1);
-        int spread = random.nextBoolean() ? 399 : 30;
+        int beds = 1 + upTo(random.nextInt(3) == 0 ? 11 : 6);
+        int clocks = random.nextInt(6) == 0 ? 0 : 1 + upTo(2);
+        int sleepers = random.nextInt(3) == 0 ? beds : 1 + upTo(beds - 1);
+        int spread = new int[] {399, 100, 30, 6}[random.nextInt(4)];
         int base = upTo(399 - spread);
         List<String> tells = new ArrayList<>();
         for (int i = 0; i < beds; i++) tells.add("bed " + NAMES[i] + " " + number(0, random.nextInt(3)) + " " + number(0, 9) + ";");
@@ -165,12 +165,17 @@ public final class ModelTest {
         for (int n = random.nextInt(3); n >= 0; n--) {
             if (b.length() == 0) return b.toString();
             int at = random.nextInt(b.length());
-            switch (random.nextInt(6)) {
+            switch (random.nextInt(8)) {
                 case 0: b.deleteCharAt(at); break;
                 case 1: b.insert(at, signs.charAt(random.nextInt(signs.length()))); break;
                 case 2: b.setCharAt(at, signs.charAt(random.nextInt(signs.length()))); break;
                 case 3: b.setLength(at); break;
                 case 4: b.setCharAt(at, (char) random.nextInt(256)); break;
+                case 5: rename(b, at); break;
+                case 6:
+                    String[] tells = b.toString().split(";");
+                    b.append(tells[random.nextInt(tells.length)]).append(';');
+                    break;
                 default:
                     int digit = at;
                     while (digit < b.length() && !Character.isDigit(b.charAt(digit))) digit++;
@@ -178,6 +183,16 @@ public final class ModelTest {
             }
         }
         return b.toString();
+    }
+
+    /** The next word of one letter becomes another one. */
+    private void rename(StringBuilder b, int from) {
+        for (int i = from + 1; i + 1 < b.length(); i++) {
+            if (b.charAt(i - 1) == ' ' && Character.isLetter(b.charAt(i)) && b.charAt(i + 1) == ' ') {
+                b.setCharAt(i, (char) ('a' + random.nextInt(26)));
+                return;
+            }
+        }
     }
 
     private void tell(String s) throws Exception {
@@ -196,7 +211,10 @@ public final class ModelTest {
         for (int i = 0; i < 9; i++) call("count", i);
     }
 
+    private static final int[] EXTREMES = {Integer.MIN_VALUE, Integer.MAX_VALUE, -2, -400, 1000, 1 << 20, Integer.MIN_VALUE + 1};
+
     private int near(int count) {
+        if (random.nextInt(60) == 0) return EXTREMES[random.nextInt(EXTREMES.length)];
         return random.nextInt(15) == 0 ? random.nextInt(3) - 1 + random.nextInt(2) * count : count == 0 ? 0 : random.nextInt(count);
     }
     private int sleeper() { return near(model.sleepers.size()); }
@@ -280,14 +298,14 @@ public final class ModelTest {
     }
 
     private void swapsCall() throws Exception {
-        if (model.plan.size() > 4 || model.beds.size() > 8) return;
+        if (model.plan.size() > 4 || model.beds.size() > 9) return;
         int l = (int) (model.cost() / model.ways()) - random.nextInt(4);
         call("swaps", l);
         for (int i = 0; i < 3; i++) call("swapAt", l, i);
     }
 
     private void roundCall() throws Exception {
-        int e = random.nextBoolean() ? 40 + near(21) : near(61);
+        int e = random.nextBoolean() ? 30 + near(31) : random.nextBoolean() ? near(12) : near(61);
         call("round", e);
         for (int i = 0; i < 9; i++) call("roundAt", e, i);
     }
