@@ -1140,6 +1140,7 @@ public final class WakeHouse {
         final int[] vain = new int[MOST_SLEEPERS];
         final int[] hours = new int[MOST_SLEEPERS];
         final int[] eight = new int[EIGHT];
+        // For HEARING: AFTER stays 0.
         final int[] words = new int[Law.WORDS];
         final Law hearingLaw = new Law();
         final Law againLaw = new Law();
@@ -1248,7 +1249,6 @@ public final class WakeHouse {
             words[Tape.HOUR] = minute / 60;
             words[Tape.DEEP] = deep[sleeper];
             words[Tape.WOOL] = wool;
-            words[Tape.AFTER] = 0;
             return held(hearingLaw.value(words), 0, SURELY);
         }
     }

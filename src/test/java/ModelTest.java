@@ -28,7 +28,7 @@ public final class ModelTest {
     }
 
     public static void main(String[] args) throws Exception {
-        int runs = args.length > 0 ? Integer.parseInt(args[0]) : 260;
+        int runs = args.length > 0 ? Integer.parseInt(args[0]) : 400;
         long first = args.length > 1 ? Long.parseLong(args[1]) : 0;
         for (long run = first; run < first + runs && wrong < 5; run++) {
             new ModelTest(run).run();
@@ -39,6 +39,10 @@ public final class ModelTest {
 
     private void run() throws Exception {
         int before = wrong;
+        if (random.nextInt(8) == 0) {
+            ties();
+            return;
+        }
         int texts = 1 + random.nextInt(3);
         for (int t = 0; t < texts && wrong == before; t++) {
             for (int bad = random.nextInt(12); bad > 8 && wrong == before; bad--) {
@@ -50,6 +54,36 @@ public final class ModelTest {
                 if (log.size() > 505) return;
                 randomCall();
             }
+        }
+    }
+
+    /** Many with an hour, close to one another: of SHAKES, THE ROUND and the like there are many as good. */
+    private void ties() throws Exception {
+        int before = wrong;
+        for (int t = 0; t < 6 && wrong == before; t++) {
+            StringBuilder s = new StringBuilder();
+            int n = 4 + random.nextInt(6);
+            int places = 1 + random.nextInt(4);
+            int start = 3 + random.nextInt(20);
+            int hours = 2 + random.nextInt(12);
+            for (int i = 0; i < n; i++) s.append("bed ").append(NAMES[i]).append(" 0 ").append(random.nextInt(places)).append(";");
+            for (int i = 0; i < n; i++) {
+                s.append("sleeper ").append(NAMES[12 + i]).append(" in ").append(NAMES[i]).append(" deep 0");
+                if (random.nextInt(9) > 0) s.append(" up ").append(start + random.nextInt(hours)).append(" late 1");
+                s.append(";");
+            }
+            s.append("clock k").append(" ").append(number(9, 12)).append(";again [").append(number(0, 5)).append(" < after];");
+            tell(s.toString());
+            for (int c = 1; c <= 2; c++) {
+                for (int what = 0; what < 2; what++) call("shakes", c, what);
+                for (int i = 0; i < n; i++) call("shaker", c, i);
+            }
+            for (int e = 0; e < 9; e += 4) {
+                call("round", e);
+                for (int i = 0; i < n; i++) call("roundAt", e, i);
+            }
+            call("fewest", 0);
+            call("deaf", 0);
         }
     }
 

@@ -28,6 +28,22 @@ public final class PromiseTest {
         return x.read();
     }
 
+    /** Feeds all of a text and takes back all but its first bytes: what was there must not matter. */
+    private static void cut(String text, int bytes, int place) {
+        WakeHouse x = new WakeHouse();
+        tell(x, " ".repeat(60));
+        StringBuilder s = new StringBuilder(text);
+        while (s.length() % 20 != 0) s.append(' ');
+        for (int i = 0; i < s.length(); i += 20) {
+            int[] five = new int[5];
+            for (int j = 0; j < 20; j++) five[j / 4] = five[j / 4] << 8 | s.charAt(i + j);
+            x.feed(five[0], five[1], five[2], five[3], five[4]);
+        }
+        due("3 back", x.back(s.length() - bytes), bytes);
+        due("4 read of the first " + bytes + " of " + text, x.read(), 1);
+        due("5 place in the first " + bytes + " of " + text, x.place(), place);
+    }
+
     private static WakeHouse house(String text) {
         WakeHouse x = new WakeHouse();
         due("read of " + text, tell(x, text), 0);
@@ -137,6 +153,8 @@ public final class PromiseTest {
         due("4 no blanks", tell(x, "bed a 0 0;clock k 1fast 3;sleeper x in a deep 1up 5late 9;hears(loud);again[1<2];"), 0);
         due("4 clocks", x.count(1), 1);
         due("4 names and ints need no blank between", tell(x, "bed a1 2;clock b5slow30;"), 0);
+        due("4 names are alike only if all letters are", tell(x, "bed a 0 0;bed aa 0 0;bed b 0 0;bed bb 0 0;bed ab 0 0;bed ba 0 0;"
+            + "clock z 1;clock zz 1;clock zzzzzzzz 1;clock zzzzzzzy 1;clock azzzzzzz 1;clock aaaaaaaa 1;clock aaaaaaa 1;clock az 1;clock ca 1;"), 0);
         due("4 tokens may be of the longest", tell(x, "bed abcdefgh 0003 0009;"), 0);
         due("4 twelve beds, nine clocks, twelve sleepers", tell(x, many()), 0);
         due("4 beds", x.count(0), 12);
@@ -190,6 +208,14 @@ public final class PromiseTest {
         fault("hears [1= =2];", 1, 8);
         fault("hears [1===2];", 1, 10);
         fault("hears [1==2);", 1, 11);
+        fault("hears [1==", 1, 10);
+        fault("hears [1=", 1, 8);
+        cut("hears [1==2];", 9, 8);
+        cut("hears [1==2];", 10, 10);
+        cut("bed abc 0 0;", 5, 5);
+        cut("bed abc 0 0;", 2, 0);
+        cut("bed a 0 1234;", 9, 9);
+        cut("bed abcdefghi 0 0;", 12, 12);
         fault("hears a;", 1, 6);
         fault("hears 1 2;", 1, 8);
         fault("again deep after;", 1, 11);
@@ -303,6 +329,10 @@ public final class PromiseTest {
         due("7 lies(-1)", x.lies(-1), -1);
         x.wool(1, true);
         due("6 of(1, 5)", x.of(1, 5), 1);
+        due("4 another text", tell(x, "bed a 0 0; bed b 0 1; sleeper p in a deep 1; sleeper q in b deep 1 up 1 late 1;"), 0);
+        due("6 late, without an hour", x.of(0, 3), 0);
+        due("6 no hour", x.of(0, 2), -2);
+        due("6 vain, with an hour", x.of(1, 4), 0);
         due("6 vain not told", house("bed a 0 0; sleeper p in a deep 1;").of(0, 4), 0);
     }
 
@@ -665,6 +695,15 @@ public final class PromiseTest {
         due("30 these alone", x.twice(0, 3, 1, 0), 30);
         x.wool(0, true);
         due("30 with his wool", x.twice(0, 9, 1, 0), 50);
+        WakeHouse u = house("bed a 0 0; sleeper p in a deep 0 up 30 late 1; again after * 2;");
+        due("30 one at the hour", u.twice(0, 5, 1, 30), 50);
+        due("31 one at the hour", u.twiceAt(0, 5, 1, 30, 0), 30);
+        // at 29: 5; asleep again by 2: 4; at 30 half of the 6 that are left: 7
+        due("30 two at the hour", u.twice(0, 5, 2, 30), 7000);
+        due("31 two at the hour", u.twiceAt(0, 5, 2, 30, 0), 29);
+        due("31 two at the hour", u.twiceAt(0, 5, 2, 30, 1), 30);
+        due("30 three at the hour", u.twice(0, 5, 3, 30), 780000);
+        for (int i = 0; i < 3; i++) due("31 three at the hour", u.twiceAt(0, 5, 3, 30, i), 28 + i);
         WakeHouse y = house("bed a 0 0; sleeper p in a deep 0 up 29 late 1; hears hour + 3;");
         due("30 HOUR - w below 0", y.twice(0, 9, 1, 30), -1);
         due("30 HOUR - w is 0", y.twice(0, 9, 1, 29), 30);
