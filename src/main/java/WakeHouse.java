@@ -1917,6 +1917,7 @@ public final class WakeHouse {
         static final long WALK = 43046721L;
         static final long SHAKEN = 153 * WALK;
         static final long CANNOT = 1000 * SHAKEN;
+        static final long FAR = 9223372036854775807L;
         static final int[] NINES = {4782969, 531441, 59049, 6561, 729, 81, 9, 1};
 
         final House house;
@@ -1980,7 +1981,7 @@ public final class WakeHouse {
         // The Hungarian method: a new row takes a side by the cheapest chain of moves.
         private void seat(int row) {
             rowAt[0] = row;
-            Arrays.fill(slack, Long.MAX_VALUE);
+            Arrays.fill(slack, FAR);
             doneSides = 0;
             int side = 0;
             for (int step = 0; step <= sides && rowAt[side] != 0; step++) {
