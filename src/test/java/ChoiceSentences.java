@@ -144,6 +144,11 @@ final class ChoiceSentences extends Sentences {
         due(x.bestAt(0, -1, 0, 0), 1);
         x.swap(0, 1);
         due(x.bestAt(0, -1, 0, 0), 0);
+        x.pole(0, 61);
+        x.swap(0, 1);
+        due(x.bestAt(0, -1, 0, 0), 1);
+        x.drop(0);
+        x.swap(0, 1);
         x.string(0, 60);
         due(x.best(0, -1, 0), 9 * 4000);
         x.drop(0);
@@ -156,6 +161,25 @@ final class ChoiceSentences extends Sentences {
         due(x.bestAt(0, -1, 0, 0), 1);
         tell(x, "bed a 0 0; clock k 6; sleeper p in a deep 0 up 60 late 2;");
         due(x.best(0, -1, 0), 80);
+        // two changes, one after the other
+        x.hold(0);
+        x.string(0, 60);
+        x.drop(0);
+        due(x.best(0, -1, 0), 80);
+        x.pole(0, 61);
+        due(x.best(0, -1, 0), 8000);
+        x.string(0, 60);
+        x.drop(0);
+        due(x.best(0, -1, 0), 0);
+        x.pole(0, 61);
+        x.restore(0);
+        due(x.best(0, -1, 0), 80);
+        x.pole(0, 61);
+        tell(x, "bed a 0 0; clock k 6; sleeper p in a deep 0 up 60 late 3;");
+        due(x.best(0, -1, 0), 120);
+        x.pole(0, 61);
+        x.wool(0, true);
+        due(x.best(0, -1, 0), 3 * 8000);
         // twelve, and a PLAN that all hear, each by another part: up by 1 - (1 - h) * (1 - 4) of ten
         StringBuilder all = new StringBuilder();
         for (int i = 0; i < 12; i++) all.append("bed b").append((char) ('a' + i)).append(" 0 ").append(i % 10).append(";");
@@ -481,6 +505,13 @@ final class ChoiceSentences extends Sentences {
         // all WALKS are 3: p by r and q by t, or p by s and q by r
         shakersAre(house("bed a 0 2; bed b 0 6; bed c 0 4; bed d 0 0; bed e 0 8; sleeper p in a deep 0 up 13 late 1; sleeper q in b deep 0 up 13 late 1;"
             + "sleeper r in c deep 0 up 10 late 1; sleeper s in d deep 0 up 10 late 1; bed f 0 0; sleeper x in f deep 0; sleeper t in e deep 0 up 10 late 1;"), 1, 2, 5, -2, -2, -2, -2);
+
+        // the last two of eight likewise: the seventh by the first and the last by the sixth, or the seventh by the second
+        shakersAre(house("bed a 0 4; bed b 0 0; bed c 3 0; bed d 3 1; bed e 3 2; bed f 0 8; bed g 0 2; bed h 0 6;"
+            + "sleeper sa in a deep 0 up 10 late 1; sleeper sb in b deep 0 up 10 late 1; sleeper sc in c deep 0 up 10 late 1; sleeper sd in d deep 0 up 10 late 1;"
+            + "sleeper se in e deep 0 up 10 late 1; sleeper sf in f deep 0 up 10 late 1; sleeper sg in g deep 0 up 13 late 1; sleeper sh in h deep 0 up 13 late 1;"),
+            1, -2, -2, -2, -2, -2, -2, 0, 5);
+        shakersAre(house(beds(8) + sleepers(7, "up 10 late 1") + sleeper(7, "up 11 late 1")), 1, -2, -2, -2, -2, -2, -2, -2, 0);
 
         sentence(28, "SHAKES: what 0 how many are shaken, 1 the sum of WALKS;");
         WakeHouse x = house(far);
