@@ -1958,6 +1958,11 @@ public final class WakeHouse {
             return one != other && house.hour[a] + walkOf(a, b) <= house.hour[b];
         }
 
+        // Each shaker has c sides, one behind the other.
+        private static int shakerAt(int side, int c) {
+            return c == 2 ? side / 2 : side;
+        }
+
         private int walkOf(int a, int b) {
             return house.walking(state.bedOf[a], state.bedOf[b]);
         }
@@ -1967,7 +1972,7 @@ public final class WakeHouse {
             int n = house.eightCount;
             for (int row = 0; row < n; row++) {
                 for (int side = 0; side < sides; side++) {
-                    int one = side / c;
+                    int one = shakerAt(side, c);
                     long value = (long) EIGHT * NINES[row];
                     if (one < n) {
                         value = !canShake(one, row) ? CANNOT : (long) one * NINES[row] - SHAKEN
@@ -2033,7 +2038,7 @@ public final class WakeHouse {
             walks = 0;
             for (int side = 1; side <= n * c; side++) {
                 if (rowAt[side] != 0) {
-                    int one = house.eight[(side - 1) / c];
+                    int one = house.eight[shakerAt(side - 1, c)];
                     int other = house.eight[rowAt[side] - 1];
                     shakerOf[other] = one;
                     shaken++;
