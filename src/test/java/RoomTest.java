@@ -7,6 +7,8 @@ public final class RoomTest {
     private static final long ME = Thread.currentThread().getId();
     private static final int TIMES = 50;
     private static final int CALLS = 50;
+    /** The machine itself may make a little now and then; what the class makes, it makes in each try. */
+    private static final int TRIES = 5;
     /** A tenth of what a room holds would be some 700,000 fields and elements of up to 8 bytes. */
     private static final long MOST_BYTES = 200_000;
     private static long answers = 0;
@@ -15,9 +17,13 @@ public final class RoomTest {
         int wrong = 0;
         // the first of all loads the classes
         answers += new WakeHouse().count(0);
-        long before = THREADS.getThreadAllocatedBytes(ME);
-        WakeHouse x = new WakeHouse();
-        long made = THREADS.getThreadAllocatedBytes(ME) - before;
+        WakeHouse x = null;
+        long made = Long.MAX_VALUE;
+        for (int t = 0; t < TRIES && made > MOST_BYTES; t++) {
+            long before = THREADS.getThreadAllocatedBytes(ME);
+            x = new WakeHouse();
+            made = THREADS.getThreadAllocatedBytes(ME) - before;
+        }
         if (made > MOST_BYTES) {
             wrong++;
             System.out.println("a new object has " + made + " bytes");
@@ -27,10 +33,7 @@ public final class RoomTest {
         if (Sentences.tell(x, text.toString()) != 0) throw new IllegalStateException();
         for (int call = 0; call < CALLS; call++) {
             answers += one(x, call, 0);
-            before = THREADS.getThreadAllocatedBytes(ME);
-            for (int i = 0; i < TIMES; i++) answers += one(x, call, i);
-            made = THREADS.getThreadAllocatedBytes(ME) - before;
-            // the machine itself may make a little once; a call that makes an object makes it each time
+            made = madeBy(x, call);
             if (made >= 16L * TIMES) {
                 wrong++;
                 System.out.println("call " + (call + 1) + ", " + TIMES + " times, made " + made + " bytes");
@@ -38,6 +41,17 @@ public final class RoomTest {
         }
         System.out.println("a new object and " + CALLS * TIMES + " calls, " + wrong + " wrong");
         if (wrong != 0 || answers == 0) System.exit(1);
+    }
+
+    /** The fewest bytes that the call, made so many times, took of the room in a few tries. */
+    private static long madeBy(WakeHouse x, int call) {
+        long fewest = Long.MAX_VALUE;
+        for (int t = 0; t < TRIES && fewest >= 16L * TIMES; t++) {
+            long before = THREADS.getThreadAllocatedBytes(ME);
+            for (int i = 0; i < TIMES; i++) answers += one(x, call, i);
+            fewest = Math.min(fewest, THREADS.getThreadAllocatedBytes(ME) - before);
+        }
+        return fewest;
     }
 
     private static long one(WakeHouse x, int call, int i) {
